@@ -146,6 +146,29 @@ final class ClassesTest {
         x.grow(0, 0);
         node(x, 0, LEAF, 0, 4);
         noNode(x, 1, 2, 3, 14);
+        wholeTree();
+    }
+
+    private static void wholeTree() {
+        // halves of two classes each, quarters of three and one: worth 4 + 4, 5/2 + 5/2, 1 + 3
+        FieldTiles x = taughtInARow(1, 0, 0, 0, 1, 1, 1, 0, 3, 2, 2, 2, 3, 3, 3, 2);
+        int[][] nodes = {{8, 16}, {4, 8}, {12, 8}, {1, 4}, {7, 4}, {9, 4}, {15, 4}};
+        for (int n = 0; n < 7; n++) {
+            node(x, n, 0, nodes[n][0], nodes[n][1]);
+        }
+        int[][] leaves = {{1, 1}, {0, 3}, {1, 3}, {0, 1}, {3, 1}, {2, 3}, {3, 3}, {2, 1}};
+        for (int n = 7; n < 15; n++) {
+            node(x, n, LEAF, leaves[n - 7][0], leaves[n - 7][1]);
+        }
+        x.grow(2, 0);
+        for (int n = 3; n < 7; n++) {
+            node(x, n, LEAF, n - 3, 4);
+        }
+        noNode(x, 7, 8, 9, 10, 11, 12, 13, 14);
+        x.grow(1, 0);
+        node(x, 1, LEAF, 0, 8);
+        node(x, 2, LEAF, 2, 8);
+        noNode(x, 3, 4, 5, 6);
     }
 
     /** Samples of classes in the first cells of date 0, with three readings each. */
@@ -299,6 +322,16 @@ final class ClassesTest {
         x.sample(0, 0, 1);
         x.sample(0, 1, 2);
         due.is("green does not count", x.kind(0, 63), 2);
+        // each band counts by itself: 50, 40, 80 is at 5 from 50, 40, 75, and 50, 80, 40 is not
+        x.forget();
+        Scene.cell(x, 0, 0, new int[] {50, 80, 40});
+        Scene.cell(x, 0, 1, new int[] {50, 40, 80});
+        Scene.cell(x, 0, 63, new int[] {50, 40, 75});
+        x.sample(0, 0, 1);
+        x.sample(0, 1, 2);
+        due.is("the second and the third band", x.kind(0, 63), 2);
+        Scene.cell(x, 0, 63, new int[] {50, 75, 40});
+        due.is("the other way round", x.kind(0, 63), 1);
         x.forget();
         due.is("nothing teaches any more", x.kind(0, 63), -1);
         Scene.date(x, 1, 0, 0, 0);
@@ -319,6 +352,7 @@ final class ClassesTest {
         x.paint(0, 0, 63, 5);
         due.is("behind paint", x.kind(0, 9), 1);
         x.put(0, 2, 0, 0);
+        due.is("ahead of copy", x.kind(0, 9), 1);
         x.copy(0, 0, 0, 9, 1);
         due.is("behind copy", x.kind(0, 9), 0);
         x.put(15, 2, 0, 950);

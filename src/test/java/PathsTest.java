@@ -8,6 +8,7 @@ final class PathsTest {
     public static void main(String[] args) {
         allow();
         path();
+        pathToTheEnd();
         on();
         changed();
         due.end();
@@ -108,6 +109,24 @@ final class PathsTest {
         isPath(x, 1, "012000");
     }
 
+    /** The samples' own cells, which have a class on date 5 too. */
+    private static void pathToTheEnd() {
+        FieldTiles x = blank();
+        told(x, 0, "30000");
+        told(x, 3, "00.23");
+        told(x, 2, "11122");
+        barAll(x);
+        due.is("path(0)", x.path(0), 1);
+        due.is("on(0, 0)", x.on(0, 0), 0);
+        due.is("path(3): two are 0, two are 3", x.path(3), 3);
+        due.is("on(3, 5)", x.on(3, 5), 0);
+        due.is("path(2): three are 1, three are 2", x.path(2), 3);
+        due.is("on(2, 0)", x.on(2, 0), 1);
+        told(x, 3, "0.323");
+        due.is("path(3): the last date tells", x.path(3), 2);
+        due.is("on(3, 0)", x.on(3, 0), 3);
+    }
+
     private static void on() {
         for (int wrong : Scene.WRONG_CELLS) {
             due.is("path(" + wrong + ")", new FieldTiles().path(wrong), -2000);
@@ -144,6 +163,8 @@ final class PathsTest {
         due.is("changed(3, 1)", x.changed(3, 1), 1);
         due.is("changed(0, 1)", x.changed(0, 1), 2);
         due.is("changed(2, 0)", x.changed(2, 0), 2);
+        told(x, 0, "12000");
+        due.is("changed(1, 2) with the first cell", x.changed(1, 2), 5);
         x.allow(1, 2, false);
         due.is("changed(1, 2) where it is not allowed", x.changed(1, 2), 0);
         for (int k = 0; k < 4; k++) {

@@ -89,6 +89,17 @@ final class SkyTest {
         x.sun(5, 1, 0);
         // the cell behind the end of a row is no neighbour of the next row's first
         states(x, 5, new int[] {8, 9, 6, 0, 15}, 3);
+        x.put(15, 2, 8, 950);
+        x.sun(5, -1, 0);
+        states(x, 5, new int[] {6, 5}, 2);
+        states(x, 5, new int[] {15}, 3);
+        x.sun(5, 1, 0);
+        states(x, 5, new int[] {9, 10}, 2);
+        x.put(15, 2, 7, 100);
+        x.sun(5, -1, 0);
+        states(x, 5, new int[] {7, 6, 15}, 3);
+        x.put(15, 2, 7, 950);
+        x.put(15, 2, 8, 100);
         x.sun(5, -1, 2);
         x.clouds(900, 3);
         states(x, 5, new int[] {22, 37, 52}, 2);

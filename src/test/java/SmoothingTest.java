@@ -12,6 +12,7 @@ final class SmoothingTest {
         smoothHoles();
         smoothNones();
         smoothTies();
+        smoothLast();
         mark();
         due.end();
     }
@@ -126,6 +127,20 @@ final class SmoothingTest {
         due.is("one cell alone without edges", x.smooth(0, 1), 0);
         due.is("the far corner", x.mark(63), 0);
         due.is("the cell", x.mark(0), 1);
+    }
+
+    private static void smoothLast() {
+        FieldTiles x = boardOf(ZEROS, ZEROS, ZEROS, ZEROS, ZEROS, ZEROS, ZEROS, "10000000");
+        x.weigh(5, 2);
+        due.is("the first cell of the last row", x.smooth(0, 1), 4);
+        marks(x, rows(ZEROS, ZEROS, ZEROS, ZEROS, ZEROS, ZEROS, ZEROS, "10000000"));
+        x = boardOf(ZEROS, ZEROS, ZEROS, ZEROS, ZEROS, ZEROS, ZEROS, "00000001");
+        x.weigh(5, 2);
+        due.is("the last cell", x.smooth(0, 1), 4);
+        marks(x, rows(ZEROS, ZEROS, ZEROS, ZEROS, ZEROS, ZEROS, ZEROS, "00000001"));
+        x.weigh(1, 1);
+        due.is("one cell at 1 and 1", x.smooth(0, 1), 1);
+        marks(x, rows());
     }
 
     private static void smoothTies() {
