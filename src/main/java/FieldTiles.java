@@ -17,7 +17,7 @@ public final class FieldTiles {
     private static final int LEAST_INT = -2147483648;
 
     private final Reels reels;
-    private final Sky heaven;
+    private final Sky sky;
     private final Samples samples;
     private final Kinds kinds;
     private final Smoother smoother;
@@ -29,7 +29,7 @@ public final class FieldTiles {
         Sky above = new Sky(rows);
         Samples seen = new Samples();
         reels = rows;
-        heaven = above;
+        sky = above;
         samples = seen;
         kinds = new Kinds(above, seen);
         smoother = new Smoother();
@@ -123,7 +123,7 @@ public final class FieldTiles {
         if (!within(bright, 0, TOP_READING) || !within(high, 0, TOP_HIGH)) {
             return BAD;
         }
-        heaven.setClouds(bright, high);
+        sky.setClouds(bright, high);
         kinds.outdate();
         return 1;
     }
@@ -132,20 +132,20 @@ public final class FieldTiles {
         if (!isDate(date) || !within(x, -TOP_STEP, TOP_STEP) || !within(y, -TOP_STEP, TOP_STEP)) {
             return BAD;
         }
-        heaven.setSun(date, x, y);
+        sky.setSun(date, x, y);
         kinds.outdate();
         return 1;
     }
 
     public int sky(int date, int c) {
-        return isDate(date) && isCell(c) ? heaven.stateAt(date, c) : BAD;
+        return isDate(date) && isCell(c) ? sky.stateAt(date, c) : BAD;
     }
 
     public int feature(int date, int c, int f) {
         if (!isDate(date) || !isCell(c) || !within(f, 0, FEATURES - 1)) {
             return BAD;
         }
-        return heaven.stateAt(date, c) == Sky.CLEAR ? heaven.featureAt(date, c, f) : NOT;
+        return sky.stateAt(date, c) == Sky.CLEAR ? sky.featureAt(date, c, f) : NOT;
     }
 
     // ---- classes
@@ -295,8 +295,8 @@ public final class FieldTiles {
             case 4: return smoother.edge();
             case 5: return reels.held();
             case 6: return reels.latest();
-            case 7: return heaven.bright();
-            case 8: return heaven.high();
+            case 7: return sky.bright();
+            case 8: return sky.high();
             default: return BAD;
         }
     }
@@ -311,7 +311,7 @@ public final class FieldTiles {
         }
         for (int date = 0; date < DATES; date++) {
             for (int c = 0; c < CELLS; c++) {
-                h = 31 * h + heaven.stateAt(date, c);
+                h = 31 * h + sky.stateAt(date, c);
             }
             for (int c = 0; c < CELLS; c += SIDE + 1) {
                 h = 31 * h + kinds.classAt(date, c);
@@ -390,7 +390,7 @@ public final class FieldTiles {
         void wind(int r, int form, int n) {
             forms[r] = form;
             sizes[r] = n;
-            Arrays.fill(items, CELLS * r, CELLS * r + n, 0);
+            fill(r, 0, n - 1, 0);
         }
 
         void drop(int r) {
@@ -428,7 +428,10 @@ public final class FieldTiles {
         }
 
         void fill(int r, int from, int to, int v) {
-            Arrays.fill(items, CELLS * r + from, CELLS * r + to + 1, fitted(forms[r], v));
+            int fitting = fitted(forms[r], v);
+            for (int i = from; i <= to; i++) {
+                items[CELLS * r + i] = fitting;
+            }
         }
 
         private static int fitted(int form, int v) {
@@ -448,7 +451,7 @@ public final class FieldTiles {
                 return NONE;
             }
             int v = items[CELLS * r + c];
-            return within(v, 0, TOP_READING) ? v : NONE;
+            return v >= 0 && v <= TOP_READING ? v : NONE;
         }
     }
 
@@ -490,15 +493,10 @@ public final class FieldTiles {
                     return MISSING;
                 }
             }
-            if (isCloud(date, c)) {
+            if (reels.reading(date, 0, c) > bright) {
                 return CLOUD;
             }
             return isShadowed(date, c) ? SHADOWED : CLEAR;
-        }
-
-        private boolean isCloud(int date, int c) {
-            // a missing reading is NONE, which is below every BRIGHT
-            return reels.reading(date, 0, c) > bright;
         }
 
         private boolean isShadowed(int date, int c) {
@@ -513,7 +511,8 @@ public final class FieldTiles {
                 if (!within(x, 0, SIDE - 1) || !within(y, 0, SIDE - 1)) {
                     return false;
                 }
-                if (isCloud(date, SIDE * y + x)) {
+                // a missing reading is NONE, which is below every BRIGHT
+                if (reels.reading(date, 0, SIDE * y + x) > bright) {
                     return true;
                 }
             }
@@ -591,8 +590,8 @@ public final class FieldTiles {
             int least = BANDS * TOP_READING + 1;
             int nearest = NONE;
             for (int s = 0; s < teachers; s++) {
-                int far = Math.abs(featureOf(s, 0) - first) + Math.abs(featureOf(s, 1) - second)
-                        + Math.abs(featureOf(s, 2) - third);
+                int far = Math.abs(features[s] - first) + Math.abs(features[MOST_SAMPLES + s] - second)
+                        + Math.abs(features[2 * MOST_SAMPLES + s] - third);
                 if (far < least) {
                     least = far;
                     nearest = classes[s];
@@ -813,16 +812,15 @@ public final class FieldTiles {
         int classAt(int date, int c) {
             int place = CELLS * date + c;
             if (known[place] == UNKNOWN) {
-                known[place] = workOut(date, c);
+                if (sky.stateAt(date, c) != Sky.CLEAR) {
+                    known[place] = NONE;
+                } else if (mode == BY_TREE) {
+                    known[place] = grown.classAt(sky, date, c);
+                } else {
+                    known[place] = samples.nearestClass(sky, date, c);
+                }
             }
             return known[place];
-        }
-
-        private int workOut(int date, int c) {
-            if (sky.stateAt(date, c) != Sky.CLEAR) {
-                return NONE;
-            }
-            return mode == BY_TREE ? grown.classAt(sky, date, c) : samples.nearestClass(sky, date, c);
         }
 
         int tally(int date, int k) {
@@ -865,7 +863,7 @@ public final class FieldTiles {
         }
 
         int markOf(int c) {
-            return (int) (marks >>> c & 1);
+            return (int) ((marks >>> c) & 1);
         }
 
         int settle(Kinds kinds, int date, int k) {
@@ -887,7 +885,7 @@ public final class FieldTiles {
         }
 
         private void addCell(int c, int zero, int one) {
-            int bit = 1 << c % SIDE;
+            int bit = 1 << (c % SIDE);
             // no bit for the first column, whose cells have none to the left
             int left = bit >> 1;
             int beside = left == 0 ? 0 : UNIT * edge;
@@ -912,7 +910,7 @@ public final class FieldTiles {
             ways[low] = fromZero ? zeroWay : oneWay;
             fromZero = wasZero + above <= wasOne;
             costs[high] = one + (fromZero ? wasZero + above : wasOne);
-            ways[high] = (fromZero ? zeroWay : oneWay) | 1L << c;
+            ways[high] = (fromZero ? zeroWay : oneWay) | (1L << c);
         }
 
         private int takeBest() {
@@ -1014,7 +1012,7 @@ public final class FieldTiles {
                 long cells = kinds.tally(date, i);
                 if (cells > 0) {
                     long row = sumOf(i);
-                    if (row == 0) {
+                    if (row <= 0) {
                         return NOT;
                     }
                     top = top * row + cells * table[CLASSES * i + j] * bottom;

@@ -15,6 +15,7 @@ final class ClassesTest {
         treeTies();
         treeExact();
         treeLeaves();
+        treeOfForty();
         treeRefused();
         kindByTree();
         kindByNearest();
@@ -256,6 +257,21 @@ final class ClassesTest {
         // samples that are not clear are not in it
         x = taught(new int[] {1, 0, 0, 0}, new int[] {950, 0, 0, 1}, new int[] {2, 0, 0, 2});
         node(x, 0, 0, 1, 2);
+    }
+
+    private static void treeOfForty() {
+        int[] classes = new int[40];
+        for (int s = 0; s < 40; s++) {
+            classes[s] = s < 13 ? 2 : s < 39 ? 1 : 3;
+        }
+        FieldTiles x = taughtInARow(classes);
+        due.is("teaching()", x.teaching(), 40);
+        node(x, 0, 0, 13, 40);
+        node(x, 1, LEAF, 2, 13);
+        node(x, 2, 0, 39, 27);
+        node(x, 5, LEAF, 1, 26);
+        node(x, 6, LEAF, 3, 1);
+        due.is("kind(0, 39)", x.kind(0, 39), 3);
     }
 
     private static void treeRefused() {
