@@ -197,7 +197,8 @@ final class ClassesTest {
         x = taught(new int[] {0, 1, 3, 2}, new int[] {0, 3, 1, 2}, new int[] {0, 2, 2, 1});
         node(x, 0, 1, 1, 3);
         // green parts what no band does: classes by BAND 2 less BAND 1
-        x = taught(new int[] {0, 10, 5, 0}, new int[] {0, 20, 15, 0}, new int[] {0, 5, 10, 1}, new int[] {0, 15, 20, 1});
+        x = taught(new int[] {0, 10, 5, 0}, new int[] {0, 20, 15, 0}, new int[] {0, 5, 10, 1},
+                new int[] {0, 15, 20, 1});
         node(x, 0, 3, -143, 4);
         node(x, 1, LEAF, 0, 2);
         node(x, 2, LEAF, 1, 2);
@@ -221,10 +222,10 @@ final class ClassesTest {
         // whole-number division would find no better than the first: 1 + 3/3, 2/2 + 2/2, 5/3 + 1
         x = taughtInARow(0, 1, 0, 2);
         node(x, 0, 0, 3, 4);
-        // in thousandths behind the eighth is worth more, in truth behind the sixth
+        // 26/6 + 5/3 is as much as 40/8 + 1; rounded to thousandths the eighth would be worth more
         x = taughtInARow(0, 0, 1, 0, 0, 0, 1, 0, 1);
         node(x, 0, 0, 6, 9);
-        // 2/2 + 26/6 is as much as 26/6 + 2/2 and as behind no other; doubles tell the sixth
+        // 2/2 + 26/6 is as much as 20/6 + 4/2; sums of doubles tell the sixth
         x = taughtInARow(0, 1, 0, 0, 0, 1, 0, 0);
         node(x, 0, 0, 2, 8);
         // BAND 0 parts 3 of 7 (3 + 4/4), BAND 1 parts 1 of 7 (1 + 12/6): the first is worth more

@@ -1,4 +1,3 @@
-import java.lang.reflect.Method;
 import java.util.ArrayList;
 import java.util.Arrays;
 import java.util.List;
@@ -77,17 +76,8 @@ final class ModelTest {
     }
 
     private void ask(String name, Object... arguments) throws Exception {
-        long want = answer(model, name, arguments);
-        due.is(name + Arrays.toString(arguments), answer(tiles, name, arguments), want);
-    }
-
-    private static long answer(Object asked, String name, Object[] arguments) throws Exception {
-        Class<?>[] types = new Class<?>[arguments.length];
-        for (int i = 0; i < types.length; i++) {
-            types[i] = arguments[i] instanceof Boolean ? boolean.class : int.class;
-        }
-        Method method = asked.getClass().getMethod(name, types);
-        return ((Number) method.invoke(asked, arguments)).longValue();
+        due.is(name + Arrays.toString(arguments), Call.answer(tiles, name, arguments),
+                Call.answer(model, name, arguments));
     }
 
     private int upTo(int least, int most) {
