@@ -21,6 +21,8 @@ final class EdgesAreasTest {
         areaByToldAndTrue();
         areaRoundedDown();
         areaByOneDivision();
+        areaOfAWhole();
+        areaBelowAWhole();
         areaOfTheGreatestTable();
         areaOfUnlikeRows();
         areaRefused();
@@ -205,6 +207,40 @@ final class EdgesAreasTest {
         proofs(x, 2, 4, 3);
         proofs(x, 3, 0, 1);
         areas(x, 1000, 3000, 0, 0);
+    }
+
+    private static void areaOfAWhole() {
+        due.part("rounded down: what is a whole number stays it (doubles fall below it)");
+        // 3 times 3/5
+        FieldTiles x = cells(3);
+        proofs(x, 0, 3, 2);
+        areas(x, 1800, 1200, 0, 0);
+        // 17 times 19/20
+        x = cells(17);
+        proofs(x, 0, 19, 1);
+        areas(x, 16150, 850, 0, 0);
+        // 2 times 4/5, 4 times 2/3, 1 times 2/6
+        x = cells(2, 4, 1);
+        proofs(x, 0, 4, 1);
+        proofs(x, 1, 2, 1);
+        proofs(x, 2, 2, 4);
+        areas(x, 4600, 2400, 0, 0);
+        // 20 times 3/3, 13 times 9/10, 1 times 3/5
+        x = cells(20, 13, 1);
+        proofs(x, 0, 3);
+        proofs(x, 1, 9, 1);
+        proofs(x, 2, 3, 2);
+        areas(x, 32300, 1700, 0, 0);
+    }
+
+    private static void areaBelowAWhole() {
+        due.part("rounded down: what is below a whole number by 1 in 70739809557017 (doubles reach it)");
+        FieldTiles x = cells(16, 16, 16, 16);
+        proofs(x, 0, 386, 1000, 1000, 333);
+        proofs(x, 1, 583, 1000, 1000, 676);
+        proofs(x, 2, 530, 1000, 1000, 441);
+        proofs(x, 3, 901, 1000, 786);
+        due.is("area(0, 0)", x.area(0, 0), 13352);
     }
 
     private static void areaOfTheGreatestTable() {

@@ -1,3 +1,6 @@
+import java.util.ArrayList;
+import java.util.List;
+
 /** The sentences of the document that name an edge: samples, tree, nearest sample, classes (12 to 18). */
 final class EdgesClassesTest {
     private static final Due due = new Due("EdgesClassesTest");
@@ -24,6 +27,8 @@ final class EdgesClassesTest {
         atMostGoesFirst();
         worthAddsBothSides();
         worthComparedExactly();
+        worthUnlikeByTheLeast();
+        worthAlikeByOtherSums();
         likeWorthLeastFeature();
         likeWorthLeastNumber();
         sidesAreOneLess();
@@ -355,6 +360,38 @@ final class EdgesClassesTest {
         most[20] = 1;
         // of forty the 21st is another: ahead of it 20 + 362/20, behind it 401/21 + 19
         node(inARow(most), 0, 0, 20, 40);
+    }
+
+    /** Samples that two splits part: by BAND 0 and by BAND 1, of each class so many on the first side. */
+    private static FieldTiles byTwoSplits(int[] all, int[] firstByZero, int[] firstByOne) {
+        List<int[]> rows = new ArrayList<>();
+        for (int k = 0; k < all.length; k++) {
+            for (int s = 0; s < all[k]; s++) {
+                // with a BAND 2 of 0 GREEN is -1000 for all
+                rows.add(new int[] {s < firstByZero[k] ? 0 : 1, s < firstByOne[k] ? 1 : 2, 0, k});
+            }
+        }
+        return taught(rows.toArray(new int[0][]));
+    }
+
+    private static void worthUnlikeByTheLeast() {
+        due.part("The greatest WORTH is taken (compared exactly): forty samples, 2 by 156009 apart");
+        int[] all = {19, 13, 8};
+        int[] less = {9, 7, 1};
+        int[] more = {7, 6, 6};
+        // 6158/391 and 6284/399: no two of forty samples or fewer are nearer to one another
+        node(byTwoSplits(all, less, more), 0, 1, 1, 40);
+        node(byTwoSplits(all, less, more), 1, 0, 0, 19);
+        node(byTwoSplits(all, more, less), 0, 0, 0, 40);
+        due.is("tree(1, 2)", byTwoSplits(all, more, less).tree(1, 2), 19);
+    }
+
+    private static void worthAlikeByOtherSums() {
+        due.part("of like ones the least f (compared exactly)");
+        int[] all = {6, 2};
+        // 2/2 + 26/6 and 4/2 + 20/6: the one is greater as a sum of floats, the other as one of doubles
+        node(byTwoSplits(all, new int[] {1, 1}, new int[] {2, 0}), 0, 0, 0, 8);
+        node(byTwoSplits(all, new int[] {2, 0}, new int[] {1, 1}), 0, 0, 0, 8);
     }
 
     private static void likeWorthLeastFeature() {

@@ -342,6 +342,9 @@ final class EdgesSkyTest {
         green(x, 1000, 1, -999);
         green(x, 3, 1, -500);
         green(x, 50, 20, -429);
+        // whole numbers, but not by way of a float
+        green(x, 377, 123, -508);
+        green(x, 247, 753, 506);
     }
 
     private static void featureOfWhatIsNotClear() {

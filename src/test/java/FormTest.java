@@ -88,13 +88,21 @@ final class FormTest {
             for (Field field : one.getDeclaredFields()) {
                 boolean fixed = Modifier.isStatic(field.getModifiers());
                 due.holds(field + " is final if it is static", !fixed || Modifier.isFinal(field.getModifiers()));
+                due.holds(field + " is a number or a row of numbers if it is static",
+                        !fixed || Arrays.asList(int.class, long.class, boolean.class, int[].class)
+                                .contains(field.getType()));
                 fields += fixed ? 0 : 1;
             }
             due.holds(one + " has at most twenty fields", fields <= 20);
             for (Method method : one.getDeclaredMethods()) {
                 due.holds(method + " takes at most seven", method.getParameterCount() <= 7);
+                due.holds(method + " has no name of the face", !isOfFace(method.getName()));
             }
         }
+    }
+
+    private static boolean isOfFace(String name) {
+        return Arrays.stream(FACE).anyMatch(line -> line.contains(" " + name + "("));
     }
 
     private static void text(String whole) {
@@ -113,5 +121,32 @@ final class FormTest {
         while (calls.find()) {
             due.holds(calls.group() + " is allowed", Arrays.asList(LIBRARY).contains(calls.group()));
         }
+        due.holds("every loop has a bound", !Pattern.compile("while \\(true|for \\([^;]*;\\s*;").matcher(code).find());
+        methods(code);
+    }
+
+    /** Methods stay short; constructors and fields' first values alone make objects and rows. */
+    private static void methods(String code) {
+        String head = "^( {4}| {8})(?:[\\w\\[\\]]+ )*(\\w+)\\([^)]*\\) \\{\n";
+        Matcher method = Pattern.compile("(?m)" + head + "(?s:(.*?))^\\1\\}").matcher(code);
+        int found = 0;
+        while (method.find()) {
+            String name = method.group(2);
+            boolean isConstructor = Character.isUpperCase(name.charAt(0));
+            found += isConstructor ? 0 : 1;
+            due.holds(name + " is short", method.group(3).split("\n").length <= 60);
+            due.holds(name + " makes nothing",
+                    isConstructor || !Pattern.compile("\\bnew\\b").matcher(method.group(3)).find());
+        }
+        due.holds("all methods were found: " + found, found == declared(FieldTiles.class));
+    }
+
+    /** How many methods there are in a class and those inside it. */
+    private static int declared(Class<?> one) {
+        int number = one.getDeclaredMethods().length;
+        for (Class<?> inside : one.getDeclaredClasses()) {
+            number += declared(inside);
+        }
+        return number;
     }
 }
